@@ -19,6 +19,7 @@ public final class StockingLine {
     private static final int MOST_YEARS = 60;
     private static final int ALREADY = 100;
     private static final int DARNING = 9;
+    private static final int[] ACTS = {0, 1, 2, 3, 4, DARNING};
 
     // Each row has one number for every KIND, in their order: KING, LAME, YOUNG, BISHOP, REGENT.
     private static final String KIND_LETTERS = "klybr";
@@ -257,7 +258,7 @@ public final class StockingLine {
         if (what == 0) {
             return Math.min(many, 2);
         }
-        return many == 1 ? leastBit(heirs) : NONE;
+        return many == 1 ? court.firstOf(heirs) : NONE;
     }
 
     public int match(int what) {
@@ -313,7 +314,7 @@ public final class StockingLine {
         }
         supposed.copyFrom(rope);
         for (int stocking = 0; stocking < rope.count; stocking++) {
-            int act = rope.hangs(stocking) ? actOn(stocking, king) : NONE;
+            int act = rope.hangs(stocking) ? leastActOn(stocking, king) : NONE;
             if (act != NONE) {
                 return 10 * stocking + act;
             }
@@ -462,10 +463,20 @@ public final class StockingLine {
     public long digest() {
         long h = 1097;
         for (int king = 0; king < court.count; king++) {
-            h = withKing(h, king);
+            for (int what = 0; what <= 9; what++) {
+                h = 31 * h + king(king, what);
+            }
+            h = 31 * h + chance(king, 0);
+            h = 31 * h + chance(king, 1);
+            h = 31 * h + coup(king);
         }
         for (int stocking = 0; stocking < rope.count; stocking++) {
-            h = withStocking(h, stocking);
+            for (int what = 0; what <= 7; what++) {
+                h = 31 * h + stocking(stocking, what);
+            }
+            for (int king = 0; king < court.count; king++) {
+                h = 31 * h + wrong(king, stocking);
+            }
         }
         if (!noLine()) {
             h = withThrone(h);
@@ -475,27 +486,6 @@ public final class StockingLine {
         }
         for (int what = 0; what <= 12; what++) {
             h = 31 * h + count(what);
-        }
-        return h;
-    }
-
-    private long withKing(long before, int king) {
-        long h = before;
-        for (int what = 0; what <= 9; what++) {
-            h = 31 * h + king(king, what);
-        }
-        h = 31 * h + chance(king, 0);
-        h = 31 * h + chance(king, 1);
-        return 31 * h + coup(king);
-    }
-
-    private long withStocking(long before, int stocking) {
-        long h = before;
-        for (int what = 0; what <= 7; what++) {
-            h = 31 * h + stocking(stocking, what);
-        }
-        for (int king = 0; king < court.count; king++) {
-            h = 31 * h + wrong(king, stocking);
         }
         return h;
     }
@@ -530,10 +520,6 @@ public final class StockingLine {
         return peg < 0 || peg >= PEGS;
     }
 
-    private static int leastBit(int bits) {
-        return Integer.numberOfTrailingZeros(bits);
-    }
-
     private static boolean has(int bits, int number) {
         return (bits >> number & 1) == 1;
     }
@@ -556,17 +542,14 @@ public final class StockingLine {
         return pair == NONE ? NONE : court.wrongnessOfPair(king, rope, pair);
     }
 
-    private int actOn(int stocking, int king) {
-        for (int starch = 0; starch < STARCHES; starch++) {
-            supposed.starch[stocking] = starch;
+    private int leastActOn(int stocking, int king) {
+        for (int act : ACTS) {
+            boolean darned = act == DARNING;
+            supposed.starch[stocking] = darned ? rope.starch[stocking] : act;
+            supposed.heel[stocking] = darned ? 0 : rope.heel[stocking];
             if (court.isHeirAlone(king, supposed)) {
-                return starch;
+                return act;
             }
-        }
-        supposed.starch[stocking] = rope.starch[stocking];
-        supposed.heel[stocking] = 0;
-        if (court.isHeirAlone(king, supposed)) {
-            return DARNING;
         }
         supposed.heel[stocking] = rope.heel[stocking];
         return NONE;
@@ -577,10 +560,8 @@ public final class StockingLine {
         for (int king = 0; king < court.count; king++) {
             int his = court.mayBeHis(king, rope);
             for (int pair : PAIRS) {
-                int lesser = pair / 10;
-                int greater = pair % 10;
-                if (has(his, lesser) && has(his, greater) && rope.twoMatch(lesser, greater)) {
-                    partners[lesser] |= 1 << greater;
+                if (Court.isPairWithin(his, rope, pair)) {
+                    partners[pair / 10] |= 1 << pair % 10;
                 }
             }
         }
@@ -930,14 +911,15 @@ public final class StockingLine {
         }
 
         int wrongnessOfPair(int king, Rope rope, int pair) {
-            return wrongness(king, rope, pair / 10) + wrongness(king, rope, pair % 10);
+            int width = calf[king];
+            return wrongnessAt(width, king, rope, pair / 10) + wrongnessAt(width, king, rope, pair % 10);
         }
 
         /** Which STOCKINGS MAY BE his, as bits. */
         int mayBeHis(int king, Rope rope) {
             int bits = 0;
             for (int stocking = 0; stocking < rope.count; stocking++) {
-                if (wrongness(king, rope, stocking) <= MOST_WRONG) {
+                if (wrongnessAt(calf[king], king, rope, stocking) <= MOST_WRONG) {
                     bits |= 1 << stocking;
                 }
             }
@@ -1010,8 +992,25 @@ public final class StockingLine {
             return bits;
         }
 
+        int firstOf(int kings) {
+            for (int king = 0; king < count; king++) {
+                if (has(kings, king)) {
+                    return king;
+                }
+            }
+            return NONE;
+        }
+
         boolean isHeirAlone(int king, Rope rope) {
-            return hasPair(king, rope) && heirs(rope) == 1 << king;
+            if (!hasPair(king, rope)) {
+                return false;
+            }
+            for (int other = 0; other < count; other++) {
+                if (other != king && hasPair(other, rope)) {
+                    return false;
+                }
+            }
+            return true;
         }
 
         private boolean hasPair(int king, Rope rope) {
