@@ -286,7 +286,7 @@ public final class StockingLine {
         }
         int hung = Integer.bitCount(rope.hanging());
         if (hung < 2) {
-            return what;
+            return what == 0 ? 0 : 1;
         }
         int his = court.pairsOf(king, rope);
         int all = hung * (hung - 1) / 2;
