@@ -158,7 +158,7 @@ public final class StockingLine {
     }
 
     public int peg(int peg) {
-        if (noPeg(peg)) {
+        if (noLine() || noPeg(peg)) {
             return UNKNOWN;
         }
         return rope.hangingAt(peg);

@@ -477,7 +477,7 @@ public final class ModelTest {
         }
 
         int peg(int peg) {
-            if (peg < 0 || peg > 9) return UNKNOWN;
+            if (kings.isEmpty() || peg < 0 || peg > 9) return UNKNOWN;
             for (int s = 0; s < socks.size(); s++) {
                 if (socks.get(s).peg == peg) return s;
             }

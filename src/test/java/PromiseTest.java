@@ -80,7 +80,7 @@ public final class PromiseTest {
         }
         due("king", x.king(0, 0), UNKNOWN);
         due("stocking", x.stocking(0, 0), UNKNOWN);
-        due("peg", x.peg(0), NONE);
+        due("peg", x.peg(0), UNKNOWN);
         due("throne", x.throne(0), STATE);
         due("image", x.image(), STATE);
         due("restore", x.restore(), STATE);
@@ -366,8 +366,19 @@ public final class PromiseTest {
         x.drop(0);
         due("peg(0) then", x.peg(0), NONE);
         due("peg(-1) then", x.peg(-1), UNKNOWN);
-        due("without a LINE", new StockingLine().peg(9), NONE);
-        due("beyond without a LINE", new StockingLine().peg(10), UNKNOWN);
+        due("peg(LOW)", x.peg(LOW), UNKNOWN);
+        due("peg(HIGH)", x.peg(HIGH), UNKNOWN);
+        x.drop(1);
+        due("a LINE of which nothing hangs", x.peg(1), NONE);
+        StockingLine y = new StockingLine();
+        for (int p = -1; p <= 10; p++) {
+            due("peg(" + p + ") without a LINE", y.peg(p), UNKNOWN);
+        }
+        type(y, SMALL);
+        due("with a LINE on THE PAGE alone", y.peg(0), UNKNOWN);
+        y.line();
+        due("with it read", y.peg(0), 0);
+        due("and none there", y.peg(9), NONE);
     }
 
     private static void wash() {
