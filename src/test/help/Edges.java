@@ -22,7 +22,7 @@ final class Edges {
     private Edges() {
     }
 
-    /** What follows is a test of these words; where is "Terms" or "Promise n". */
+    /** What follows is a test of these words; where is "What it is", "Terms" or "Promise n". */
     static void says(String where, String words) {
         sentence = where + ", \"" + words + "\"";
         sentences++;
@@ -94,7 +94,7 @@ final class Edges {
     }
 
     private static String section(String where) {
-        String head = where.equals("Terms") ? "## Terms" : "## " + where + ":";
+        String head = "## " + where + (where.startsWith("Promise") ? ":" : "");
         int from = DOCUMENT.indexOf(head);
         if (from < 0) {
             return "";

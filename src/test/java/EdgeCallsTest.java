@@ -173,6 +173,11 @@ public final class EdgeCallsTest {
         noLine(SMALL + ";");
         noLine(SMALL + " ");
         noLine(" " + SMALL);
+        noLine("k300,k800,k500");
+        noLine("k300,k800,k500,k300");
+        noLine("k300,k800,k500,k300;");
+        noLine("3000,8000");
+        noLine(";3000,8000");
         noLine("k300;3000,8000");
         noLine("k300,k300,k300,k300,k300;3000,8000");
         noLine("k300,k800;3000");
@@ -272,6 +277,7 @@ public final class EdgeCallsTest {
         due("that one", y.king(0, 6), 1);
         due("by nothing", y.king(0, 7), 0);
         due("as many as can be", of("k300,k900;3000,3000,3000,3000,3000,3000").king(0, 5), 15);
+        due("none of six", of("k300,k900;0000,2000,4000,6000,8000,3100").king(0, 5), 0);
     }
 
     private static void likePairsOfAKing() {
@@ -447,6 +453,7 @@ public final class EdgeCallsTest {
         x.drop(1);
         due("none", x.wash(), 0);
         due("it is a wash, too", x.count(7), 3);
+        due("and a change", x.count(6), 5);
     }
 
     private static void theHundredthWash() {
@@ -824,7 +831,9 @@ public final class EdgeCallsTest {
         due("as much as can", x.sweep(), 6);
         due("nothing then", x.count(8), 0);
         due("all winds again", x.winds(0), 19);
+        x.tryOn(0, 0, true);
         due("again", x.sweep(), 0);
+        due("what is tried stays", x.count(9), 1);
         due("without a LINE", new StockingLine().sweep(), 0);
     }
 
@@ -895,7 +904,9 @@ public final class EdgeCallsTest {
         due("as much as can", x.forget(), 8);
         due("nothing then", x.count(9), 0);
         due("all calves again", x.king(0, 8), 1023);
+        x.lies(0, 0);
         due("again", x.forget(), 0);
+        due("what lies stays", x.count(8), 1);
         due("without a LINE", new StockingLine().forget(), 0);
     }
 
@@ -1068,6 +1079,7 @@ public final class EdgeCallsTest {
         due("six", of("k300,k900;3000,3000,3000,3000,3000,3000").count(4), 15);
         due("nobody's", of("k300,k900;6430,6430").count(4), 1);
         due("none", of(SMALL).count(4), 0);
+        due("none of six", of("k300,k900;0000,2000,4000,6000,8000,3100").count(4), 0);
     }
 
     private static void whereNothingHangs() {
@@ -1192,10 +1204,8 @@ public final class EdgeCallsTest {
     // ---- how long an object is used
 
     private static void theLastCall() {
-        promise = 2;
-        says("A letter comes behind THE PAGE, told by its code: how many THE PAGE has.");
+        Edges.says("What it is", "An object is used for at most 512 calls after it has been made;");
         StockingLine x = of(SMALL);
-        // The document ends with the 512th call.
         for (int calls = SMALL.length() + 2; calls <= 512; calls++) {
             due("call " + calls, calls % 2 == 0 ? x.blank() : x.letter('k'), 1);
         }

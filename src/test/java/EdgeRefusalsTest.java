@@ -69,9 +69,12 @@ public final class EdgeRefusalsTest {
     private static void full(StockingLine x) {
         Edges.read(x, "k300,k801;3010,8010");
         x.image();
+        // One that is OFF keeps its size, so that a wash more could be seen.
+        x.drop(0);
         for (int many = 1; many <= 99; many++) {
             x.wash();
         }
+        x.pin(0, 0);
         for (int many = 1; many <= 6; many++) {
             x.lies(0, 4);
         }

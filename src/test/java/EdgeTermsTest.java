@@ -36,6 +36,7 @@ public final class EdgeTermsTest {
 
     private static void theText() {
         atFirstThereIsNone();
+        howManyKings();
         calfStarchKnitter();
         sizeStarchKnitterHeel();
         howManyStockings();
@@ -62,6 +63,21 @@ public final class EdgeTermsTest {
             due("fault() of " + other, x.fault(), may ? text.length() : place);
             due("line() of " + other, x.line(), may ? 2 : STATE);
         }
+    }
+
+    private static void howManyKings() {
+        Edges.says("What it is", "two to four KINGS (numbered from 0) with \",\" between, each a letter, the KIND, "
+            + "and three digits");
+        String text = "k300";
+        due("line() with one king", Edges.typed(text + ";3000,8000").line(), STATE);
+        for (int many = 2; many <= 4; many++) {
+            text += ",k300";
+            StockingLine x = of(text + ";3000,8000");
+            due("kings", x.count(0), many);
+            due("the last one", x.king(many - 1, 1), 3);
+            due("one more", x.king(many, 1), Edges.UNKNOWN);
+        }
+        due("line() with five kings", Edges.typed(text + ",k300;3000,8000").line(), STATE);
     }
 
     private static void calfStarchKnitter() {
@@ -174,6 +190,9 @@ public final class EdgeTermsTest {
         wrongBy("k540", "5400", 0);
         wrongBy("k540", "5300", 2);
         wrongBy("k500", "5400", 2);
+        wrongBy("l500", "5401", 2);
+        wrongBy("y500", "3400", 2);
+        wrongBy("r500", "3400", 2);
     }
 
     private static void knittersUnlike() {
@@ -181,6 +200,9 @@ public final class EdgeTermsTest {
         wrongBy("k503", "5030", 0);
         wrongBy("k503", "5020", 3);
         wrongBy("k500", "5030", 3);
+        wrongBy("l500", "5031", 3);
+        wrongBy("y500", "3030", 3);
+        wrongBy("b500", "5030", 3);
         wrongBy("k943", "0001", 15);
     }
 
@@ -221,13 +243,12 @@ public final class EdgeTermsTest {
         says("for a BISHOP STARCH does not count;");
         wrongBy("b500", "5400", 0);
         wrongBy("b500", "5410", 3);
-        wrongBy("r500", "3400", 2);
     }
 
     private static void regent() {
         says("for a REGENT, a YOUNG one besides, KNITTERS do not count.");
         wrongBy("r500", "3030", 0);
-        wrongBy("y500", "3030", 3);
+        wrongBy("r500", "3431", 3);
         wrongBy("r500", "5030", 2);
     }
 
@@ -342,7 +363,8 @@ public final class EdgeTermsTest {
         due("pairs of the second", x.king(1, 5), 1);
         due("which of his", x.king(1, 6), 1);
         due("how wrong for him", x.king(1, 7), 1);
-        due("twice as wrong as can be", of("k500,k900;2000,2000").king(0, 7), 6);
+        due("as wrong as can be", of("k500,k900;2000,2000").king(0, 7), 6);
+        due("the last two", of("k300,k900;9430,9430,9430,9430,3000,4000").king(0, 7), 1);
     }
 
     private static void howManyHaveAPair() {
@@ -477,6 +499,7 @@ public final class EdgeTermsTest {
     private static void noStockingInTwo() {
         says("no STOCKING in two");
         matched("k300,k300;3000,3000,3000", 1, 0, NONE, 1);
+        matched("k300,k300;0430,2430,4430,3000,3000,3000", 1, 0, NONE, 34);
         matched("k300,k300,k300,k300;3000,3000,3000,3000,3000", 2, 0, NONE, NONE, 1, 23);
         matched("k300,k300,k300,k300;3000,3000,3000,3000,3000,3000", 3, 0, NONE, 1, 23, 45);
     }
@@ -484,6 +507,7 @@ public final class EdgeTermsTest {
     private static void mostKings() {
         says("so that most KINGS have one, of these so that all are WRONG by least:");
         matched("k500,k800;5000,5000,4000,4000", 2, 8, 23, 1);
+        matched("k500,k300;7000,7000,5000,5000", 2, 8, 1, 23);
     }
 
     private static void leastWrong() {
@@ -539,6 +563,8 @@ public final class EdgeTermsTest {
         chanceIs(of("k300,k900;3000,3000,3000,3000,9430,9430"), 0, 2, 5);
         chanceIs(of("k300,k900;3000,3000,3000,9430,9430,9430"), 0, 1, 5);
         chanceIs(of("k300,k900;3000,3000,9430,9430,9430,9430"), 0, 1, 15);
+        chanceIs(of("k300,k900;3000,3000,3000,9430,9430"), 0, 3, 10);
+        chanceIs(of("k300,k900;3000,3000,3100,3100"), 0, 1, 3);
     }
 
     // ---- DOG
@@ -615,12 +641,16 @@ public final class EdgeTermsTest {
         due("his alone", of("k300,k900;3000,3000").coup(0), 100);
         due("another's alone", of("k300,k900;3000,3000").coup(1), NONE);
         due("the last one's", of("k900,k900,k900,k300;3000,3000").coup(3), 100);
-        due("disputed", of("k300,k300;3000,3000").coup(0), NONE);
+        due("disputed, the first", of("k300,k300;3000,3000").coup(0), NONE);
+        due("disputed, the second", of("k300,k300;3000,3000").coup(1), NONE);
     }
 
     private static void noCoup() {
-        says("none; 100, if it is so already.");
+        says("by which single act the THRONE is SETTLED, and his:");
         due("nothing helps", of(Edges.SMALL).coup(0), NONE);
+        due("a darn and a starch", of("k500,k943;2001,3400").coup(0), NONE);
+        due("two darns", of("k500,k943;2001,2001").coup(0), NONE);
+        due("two starches", of("k500,k943;2400,2400").coup(0), NONE);
         StockingLine x = of("k300,k900;3000,3100");
         Edges.dropAll(x);
         due("nothing hangs", x.coup(0), NONE);
@@ -629,9 +659,12 @@ public final class EdgeTermsTest {
     private static void withSomeStarch() {
         says("STARCHING one that hangs with some STARCH (told as 10 times it, and the STARCH)");
         due("the least", of("k300,k900;3400,3000").coup(0), 0);
-        // Of size 6 they are 3 apart, so no other starch may be.
-        due("the greatest starch", of("k340,k900;6400,6000").coup(0), 14);
-        due("and the other king's", of("k340,k900;6400,6000").coup(1), 0);
+        // Of size 6 they are 3 apart from his calf, so that only with his own starch they may be his.
+        for (int starch = 1; starch <= 4; starch++) {
+            String text = "k3" + starch + "0,k900;6" + starch + "00,6000";
+            due("starch " + starch, of(text).coup(0), 10 + starch);
+            due("and the other king's", of(text).coup(1), 0);
+        }
     }
 
     private static void byADarn() {
@@ -755,6 +788,10 @@ public final class EdgeTermsTest {
         StockingLine x = of(Edges.SMALL);
         x.lies(0, 5);
         windsAre(x, 1, 5, 5, 0);
+        x.wash();
+        x.starch(0, 4);
+        x.darn(0);
+        windsAre(x, 1, 5, 5, 0);
         x.pin(0, 9);
         windsAre(x, 1, -4, -4, 0);
         x.wind(-3);
@@ -786,10 +823,13 @@ public final class EdgeTermsTest {
         // Of -9 to -1 stocking 1 is OFF by -9 to -6, stocking 2 by none.
         windsAre(x, 9, -9, -1, 2);
         x.pin(1, 8);
-        x.sweep();
-        x.lies(0, NONE);
         // Stocking 1 is OFF by -9 alone, so one is left at worst by both.
         windsAre(x, 9, -9, -1, 1);
+        x.pin(1, 7);
+        // Stocking 1 is OFF by -9 and by -8.
+        windsAre(x, 9, -9, -1, 2);
+        x.pin(2, 8);
+        windsAre(x, 9, -9, -1, 2);
     }
 
     // ---- TRIED
@@ -849,15 +889,20 @@ public final class EdgeTermsTest {
 
     private static void allElseAsItIs() {
         says("all else as it is when that is asked");
-        StockingLine x = of("k500,k900;5001,9000");
+        StockingLine x = of("k501,k900;5011,9000");
         x.tryOn(0, 0, true);
         due("worn", x.king(0, 8), 0b0011111000);
         x.darn(0);
         due("darned", x.king(0, 8), 0b0111111100);
         x.starch(0, 1);
         due("starched", x.king(0, 8), 0b0001110000);
+        x.wash();
+        due("washed", x.king(0, 8), 0b0000111000);
+        x.pin(0, 9);
+        x.wind(-1);
+        due("elsewhere", x.king(0, 8), 0b0000111000);
         x.drop(0);
-        due("OFF", x.king(0, 8), 0b0001110000);
+        due("OFF", x.king(0, 8), 0b0000111000);
     }
 
     private static void triedOnHim() {
@@ -877,6 +922,9 @@ public final class EdgeTermsTest {
         calvesAre(x, 1, 0b1111111111, 1);
         StockingLine y = of("k300,k800;3000,3000");
         calvesAre(y, 0, 0b1111111111, 0);
+        // No calf makes these his, so that a trial tells nothing.
+        StockingLine z = of("k300,k800;3110,3110");
+        calvesAre(z, 0, 0b1111111111, 0);
     }
 
     private static void fewestCalvesLeft() {
@@ -896,6 +944,7 @@ public final class EdgeTermsTest {
     private static void theYears() {
         drawsOfFive();
         restByTwoToThe31();
+        roundedDown();
         settledBehindSome();
         yearsAreNotDone();
         yearsWhereNothingHangs();
@@ -914,13 +963,31 @@ public final class EdgeTermsTest {
     private static void drawsOfFive() {
         says("in each there is a WIND by 2 less than a DRAW of 5, then a WASH:");
         int[] seeds = {0, 6, 3, 1, 7};
+        for (int draw = 0; draw < 5; draw++) {
+            drawn(seeds[draw], draw);
+        }
+    }
+
+    private static void drawn(int seed, int draw) {
         int[] hangFirst = {0, 1, 2, 2, 2};
         int[] hangLast = {2, 2, 2, 1, 0};
-        for (int draw = 0; draw < 5; draw++) {
-            int seed = seeds[draw];
-            due("seed " + seed + ", at the first", atBothEnds(true).years(1, seed, 1), hangFirst[draw]);
-            due("seed " + seed + ", at the last", atBothEnds(false).years(1, seed, 1), hangLast[draw]);
+        due("seed " + seed + ", at the first", atBothEnds(true).years(1, seed, 1), hangFirst[draw]);
+        due("seed " + seed + ", at the last", atBothEnds(false).years(1, seed, 1), hangLast[draw]);
+    }
+
+    private static void roundedDown() {
+        says("then that by 65536 (rounded down), its rest.");
+        // The next seeds are 0, 65535, 65536, 131071, 131072 and so on, and at last 2 to the 31, less 1.
+        int[] firsts = {2088216195, 1742513795, 1396811395, 1051108995, 705406595, 359704195};
+        int[] lasts = {2032319262, 1686616862, 1340914462, 995212062, 649509662, 303807262};
+        for (int part = 0; part < 6; part++) {
+            due("the next seed", of(Edges.SMALL).years(1, firsts[part], 2), part * 65536);
+            drawn(firsts[part], part % 5);
+            due("the last of them", of(Edges.SMALL).years(1, lasts[part], 2), part * 65536 + 65535);
+            drawn(lasts[part], part % 5);
         }
+        due("the greatest next seed", of(Edges.SMALL).years(1, 230538014, 2), Edges.HIGH);
+        drawn(230538014, 32767 % 5);
     }
 
     private static void restByTwoToThe31() {
@@ -943,6 +1010,16 @@ public final class EdgeTermsTest {
         int[] settled = {0, 1, 2, 3, 4, 4};
         for (int years = 1; years <= 6; years++) {
             due("years(" + years + ")", x.years(years, 1, 0), settled[years - 1]);
+        }
+        // That wash() is FULL is told of wash() alone.
+        Edges.dropAll(x);
+        for (int washes = 1; washes <= 99; washes++) {
+            x.wash();
+        }
+        x.pin(0, 0);
+        x.pin(1, 1);
+        for (int years = 1; years <= 6; years++) {
+            due("years(" + years + ") behind 99 washes", x.years(years, 1, 0), settled[years - 1]);
         }
     }
 
@@ -992,7 +1069,7 @@ public final class EdgeTermsTest {
 
     /** Behind the image all of it is changed. */
     private static StockingLine changedSinceTheImage() {
-        StockingLine x = of("k500,k821;7211,8211,8211");
+        StockingLine x = of("k500,k821;7211,8211,8221");
         x.drop(0);
         x.wash();
         x.lies(1, 5);
@@ -1006,11 +1083,11 @@ public final class EdgeTermsTest {
         x.wash();
         x.wind(1);
         x.sweep();
-        x.lies(1, 0);
         x.lies(2, 0);
+        x.lies(1, 0);
         x.forget();
-        x.tryOn(0, 1, false);
-        x.tryOn(1, 2, false);
+        x.tryOn(0, 2, false);
+        x.tryOn(1, 0, false);
         return x;
     }
 
